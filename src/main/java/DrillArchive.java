@@ -160,11 +160,24 @@ public final class DrillArchive {
     }
 
     public boolean agrees() {
-        return roleThatDiffers(0) == NONE;
+        return told(0) == NONE;
     }
 
     public int told(int k) {
-        return k < 0 ? NONE : roleThatDiffers(k);
+        if (k < 0) {
+            return NONE;
+        }
+        int left = k;
+        for (int role = 0; role <= LAST_ROLE; role++) {
+            StoredFile kept = files.withRole(role);
+            if (kept != null && !kept.bytes.same(writer.textOf(drawing, 0, role))) {
+                if (left == 0) {
+                    return role;
+                }
+                left--;
+            }
+        }
+        return NONE;
     }
 
     public long sum(int file) throws IndexOutOfBoundsException {
@@ -193,20 +206,6 @@ public final class DrillArchive {
             throw new IndexOutOfBoundsException("no such file");
         }
         return known;
-    }
-
-    private int roleThatDiffers(int k) {
-        int left = k;
-        for (int role = 0; role <= LAST_ROLE; role++) {
-            StoredFile kept = files.withRole(role);
-            if (kept != null && !kept.bytes.same(writer.textOf(drawing, 0, role))) {
-                if (left == 0) {
-                    return role;
-                }
-                left--;
-            }
-        }
-        return NONE;
     }
 
     private static boolean isDiameter(long diameter) {
@@ -553,7 +552,11 @@ public final class DrillArchive {
             out.empty();
             writeHead(drawing);
             for (int number = 0; number < drawing.toolCount; number++) {
-                writeHits(drawing, number);
+                Tool tool = drawing.toolAt(number);
+                if (tool != null) {
+                    planner.plan(drawing, tool);
+                    writeHits(drawing, tool, number);
+                }
             }
             out.pushText("M30\n");
             return out;
@@ -575,12 +578,7 @@ public final class DrillArchive {
             out.pushText("%\n");
         }
 
-        private void writeHits(Drawing drawing, int number) {
-            Tool tool = drawing.toolAt(number);
-            if (tool == null) {
-                return;
-            }
-            planner.plan(drawing, tool);
+        private void writeHits(Drawing drawing, Tool tool, int number) {
             boolean named = false;
             for (int i = 0; i < tool.ordered.count; i++) {
                 Hit hit = drawing.hitAt(tool.ordered.get(i));
