@@ -209,6 +209,25 @@ public final class FilesTest {
         told(a, 3, 6);
         a.tool(1, true);
         told(a, 0, 3, 6);
+        agreeingWithAll();
+    }
+
+    private static void agreeingWithAll() {
+        for (int wrong = 0; wrong < 8; wrong++) {
+            DrillArchive a = new DrillArchive();
+            for (int number = 0; number < 8; number++) {
+                int role = 7 - number;
+                a.file(role);
+                String text = "M48\nL0," + role + "\n%\nM30\n";
+                fill(a, number, role == wrong ? text.replace("3", "4") : text);
+            }
+            Check.due("one byte of role " + wrong + " differs", a.agrees(), false);
+            told(a, wrong);
+        }
+        DrillArchive first = new DrillArchive();
+        first.file(0);
+        fill(first, 0, "m48\nL0,0\n%\nM30\n");
+        told(first, 0);
     }
 
     private static void told(DrillArchive a, int... roles) {

@@ -56,6 +56,7 @@ public final class ReadTest {
         right(TOOLS + "T1\nT0\nT1\nM30\n", 0);
         right(TOOLS + "T1\nX0Y0\nT0\nX1Y1\nT1\nX0Y0\nX-0Y-0\nM30\n", 4);
         right("M48\nL0000000,0000007\nT0000000C0010000N\n%\nT000\nX-1000000Y0000001\nM30\n", 1);
+        right(TOOLS + "T0\nX0Y0G85X0Y1\nX0Y0G85X1Y0\nM30\n", 2);
         right("M48\nL0,0\nT0C1P\n%\nT0\nX1000000Y-1000000G85X-1000000Y1000000\nM30\n", 1);
     }
 
@@ -168,6 +169,7 @@ public final class ReadTest {
         Check.due("unended again", a.read(), -1 - length);
         Check.due("the tools stay", Check.written(a, 34), "M48\nL3,4\nT0C9P\n%\nT0\nX1Y2\nM30\n");
         Check.dueThrow("the hits stay", Check.INDEX, () -> a.at(1, 0));
+        Check.due("a text ahead", Check.written(a, 12), "M48\nL1,2\nT0C9P\n%\nM30\n");
         Check.put(a, "0\n");
         Check.due("ended", a.read(), 2);
         Check.due("the tools are new", Check.written(a, 12),
