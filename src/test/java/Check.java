@@ -1,14 +1,54 @@
+import java.util.function.Consumer;
 import java.util.function.LongSupplier;
+import java.util.function.ToLongFunction;
 
 /** What the tests share: answers compared with those that are due, and texts put in and taken out. */
 final class Check {
     static final String INDEX = "IndexOutOfBoundsException";
     static final String ARGUMENT = "IllegalArgumentException";
 
+    private static int tests = 0;
     private static int checks = 0;
     private static int wrong = 0;
 
     private Check() {
+    }
+
+    /** One sentence of the document with a test of its own: what fails in it leaves the others to run. */
+    static void test(String sentence, Runnable body) {
+        int before = wrong;
+        tests++;
+        try {
+            body.run();
+        } catch (RuntimeException e) {
+            wrong++;
+            System.out.println("threw " + e);
+        }
+        if (wrong != before) {
+            System.out.println("    does not hold: " + sentence);
+        }
+    }
+
+    /** A call that is refused answers so, and leaves all as it was: as if the object never got it. */
+    static void refused(String call, Consumer<DrillArchive> made, ToLongFunction<DrillArchive> refused, String want) {
+        DrillArchive archive = new DrillArchive();
+        made.accept(archive);
+        due(call, answer(() -> refused.applyAsLong(archive)), want);
+        Consumer<DrillArchive> andRefused = made.andThen(a -> answer(() -> refused.applyAsLong(a)));
+        same("after " + call, Whole.of(andRefused), Whole.of(made));
+    }
+
+    /** As due, with the first line told in which the two differ. */
+    static void same(String call, String got, String want) {
+        String[] gotLines = got.split("\n");
+        String[] wantLines = want.split("\n");
+        for (int i = 0; i < Math.min(gotLines.length, wantLines.length); i++) {
+            if (!gotLines[i].equals(wantLines[i])) {
+                due(call, gotLines[i], wantLines[i]);
+                return;
+            }
+        }
+        due(call, gotLines.length, wantLines.length);
     }
 
     static void due(String call, long got, long want) {
@@ -71,7 +111,8 @@ final class Check {
     }
 
     static void end(String test) {
-        System.out.println(test + ": " + checks + " answers, " + wrong + " of them not as due");
+        String own = tests == 0 ? "" : tests + " sentences, ";
+        System.out.println(test + ": " + own + checks + " answers, " + wrong + " of them not as due");
         if (wrong != 0) {
             System.exit(1);
         }
