@@ -81,6 +81,8 @@ public final class BoundsOrderTest {
             Check.due("travel", a.travel(0), 60);
         });
         Check.test("9: a HIT more changes a row that was asked for", BoundsOrderTest::oneMore);
+        Check.test("9: TOOLS that are asked for in turn keep their rows", BoundsOrderTest::toolsInTurn);
+        Check.test("9: a TOOL with three HITS behind one with eight", BoundsOrderTest::threeBehindEight);
     }
 
     private static void oneMore() {
@@ -90,6 +92,49 @@ public final class BoundsOrderTest {
         ordered(a, 11, 1, 0);
         a.slot(0, 8, 0, -2, 0);
         ordered(a, 11, 0, 2, 1);
+    }
+
+    /** With eight, three, nine and ten hits, so that each way to find a row comes behind each other one. */
+    private static void toolsInTurn() {
+        int[] counts = {8, 3, 9, 10};
+        int[] turns = {0, 1, 2, 3, 1, 0, 3, 2};
+        DrillArchive a = scattered(counts);
+        for (int tool : turns) {
+            StringBuilder row = new StringBuilder();
+            for (int k = 0; k < counts[tool]; k++) {
+                row.append(a.order(tool, k)).append(' ');
+            }
+            PlainOrder plain = new PlainOrder(scattered(counts), tool);
+            String want = counts[tool] <= 8 ? plain.least() : plain.nearest();
+            Check.due("tool " + tool, row.append(a.travel(tool)).toString(), want);
+        }
+    }
+
+    /** Behind the first three hits of the eight the way on differs much by the last of them: not so for the three. */
+    private static void threeBehindEight() {
+        DrillArchive a = holes(0, 0, 1_000, 0, 2_000, 0, 0, 0, 0, 0, 0, 0, 0, 0, 0, 0);
+        ordered(a, 2_000, 0, 3, 4, 5, 6, 7, 1, 2);
+        a.tool(2, true);
+        for (int x = 1; x <= 3; x++) {
+            a.hole(1, x, 0, 0, 0);
+        }
+        for (int k = 0; k < 3; k++) {
+            Check.due("order(1, " + k + ")", a.order(1, k), 8 + k);
+        }
+        Check.due("travel(1)", a.travel(1), 3);
+    }
+
+    private static DrillArchive scattered(int[] counts) {
+        DrillArchive a = new DrillArchive();
+        Made.tools(a, counts.length);
+        for (int k = 0; k < 10; k++) {
+            for (int tool = 0; tool < counts.length; tool++) {
+                if (k < counts[tool]) {
+                    a.hole(tool, (k * 37 + tool * 11) % 23 - 11, (k * 17 + tool * 5) % 19 - 9, 0, 0);
+                }
+            }
+        }
+        return a;
     }
 
     private static void arguments() {
@@ -227,6 +272,8 @@ public final class BoundsOrderTest {
             ordered(a, 44, 1, 0, 2, 3, 4, 5, 6, 7);
             a.hole(0, 40, 0, 0, 0);
             ordered(a, 1 + 3 + 42, 0, 1, 2, 3, 4, 5, 6, 7, 8);
+            a.hole(0, -2, 0, 0, 0);
+            ordered(a, 1 + 3 + 42, 0, 1, 9, 2, 3, 4, 5, 6, 7, 8);
         });
     }
 }

@@ -116,6 +116,14 @@ public final class BoundsReadTest {
                 wrongAt(EACH.substring(0, place + 1) + "\n" + EACH.substring(place + 1), place + 1);
             }
         });
+        Check.test("7: a sign that comes twice is wrong at the second", () -> {
+            for (int place = 0; place < EACH.length(); place++) {
+                if (!Character.isDigit(EACH.charAt(place))) {
+                    wrongAt(EACH.substring(0, place + 1) + EACH.substring(place), place + 1);
+                }
+            }
+        });
+        Check.test("7: every text one character away from a right one", BoundsReadTest::neighbours);
         Check.test("7: small letters are wrong", () -> {
             for (int place = 0; place < EACH.length(); place++) {
                 if (Character.isUpperCase(EACH.charAt(place))) {
@@ -128,6 +136,31 @@ public final class BoundsReadTest {
                 wrong(TOOLS + "M30\n^\n", TOOLS + "M30\n^M30\n", TOOLS + "M30\n^M48\n", TOOLS + "M30\n^T0\n"));
         Check.test("7: the first of several wrong lines is told", () -> wrong("M48\n^L0,8\nQ\n",
                 LAYERS + "^T1C0P\n%\nT5\n", CHOSEN + "^X1000001Y0\nX0Y0Q\n", CHOSEN + "X0Y0^Q\nX1000001Y0\n"));
+    }
+
+    /** Too many to tell the place of each by hand: the plain model tells it in another way. */
+    private static void neighbours() {
+        String signs = "M4830LTCPN%XYG5,-19 \n";
+        for (int place = 0; place <= EACH.length(); place++) {
+            String before = EACH.substring(0, place);
+            String from = EACH.substring(place);
+            String behind = from.isEmpty() ? "" : from.substring(1);
+            asTheModel(before + behind);
+            for (int i = 0; i < signs.length(); i++) {
+                asTheModel(before + signs.charAt(i) + from);
+                asTheModel(before + signs.charAt(i) + behind);
+            }
+        }
+    }
+
+    private static void asTheModel(String text) {
+        DrillArchive a = new DrillArchive();
+        PlainModel model = new PlainModel();
+        for (int i = 0; i < text.length(); i++) {
+            a.unit(text.charAt(i));
+            model.unit(text.charAt(i));
+        }
+        Check.due("read of " + text, a.read(), model.read());
     }
 
     private static void heads() {

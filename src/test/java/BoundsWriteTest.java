@@ -34,6 +34,7 @@ public final class BoundsWriteTest {
             Check.due("write(7, far behind)", a.write(7, Integer.MAX_VALUE), NONE);
         });
         Check.test("5: NONE behind a TEXT that was longer before", BoundsWriteTest::shorterAgain);
+        Check.test("5: a TEXT that was asked for changes with TOOLS and HITS", BoundsWriteTest::changes);
         Check.test("5: the longest TEXT, up to its last character", BoundsWriteTest::longest);
     }
 
@@ -47,6 +48,22 @@ public final class BoundsWriteTest {
         a.clear();
         Check.due("of no tools", a.write(13, 14), 10);
         Check.due("behind that", a.write(13, 15), NONE);
+    }
+
+    private static void changes() {
+        DrillArchive a = new DrillArchive();
+        Check.due("at first", Check.written(a, 7), "M48\nL0,7\n%\nM30\n");
+        a.tool(1, true);
+        Check.due("a tool", Check.written(a, 7), "M48\nL0,7\nT0C1P\n%\nM30\n");
+        a.hole(0, 1, 1, 0, 7);
+        Check.due("a hole", Check.written(a, 7), "M48\nL0,7\nT0C1P\n%\nT0\nX1Y1\nM30\n");
+        a.slot(0, 0, 0, 2, 2);
+        Check.due("a slot", Check.written(a, 7), "M48\nL0,7\nT0C1P\n%\nT0\nX0Y0G85X2Y2\nX1Y1\nM30\n");
+        Made.put(a, "M48\nL0,7\nT0C3N\n%\nM30\n");
+        a.read();
+        Check.due("a text read", Check.written(a, 7), "M48\nL0,7\nT0C3N\n%\nM30\n");
+        a.clear();
+        Check.due("cleared", Check.written(a, 7), "M48\nL0,7\n%\nM30\n");
     }
 
     private static void longest() {
@@ -96,6 +113,14 @@ public final class BoundsWriteTest {
         Check.test("5: below 0", () -> noLayers(-1, -7, -9, -10, -11, -12, -77, Integer.MIN_VALUE));
         Check.test("5: far above", () -> noLayers(100, 107, 777, 1_000_000_007, Integer.MAX_VALUE));
         Check.test("5: HITS of just these LAYERS", BoundsWriteTest::justTheseLayers);
+        Check.test("5: LAYERS that are asked for in turn", () -> {
+            DrillArchive a = new DrillArchive();
+            int[] turns = {7, 17, 77, 7, 0, 7, 1, 11, 1};
+            for (int layers : turns) {
+                Check.due("from, of " + layers, a.write(layers, 5), '0' + layers / 10);
+                Check.due("to, of " + layers, a.write(layers, 7), '0' + layers % 10);
+            }
+        });
     }
 
     private static void noLayers(int... none) {

@@ -3,18 +3,19 @@ import java.util.List;
 
 /** The ORDER of a tool's hits as the document's words say it: every row tried, or always the nearest. */
 final class PlainOrder {
-    private final DrillArchive archive;
+    /** Of each hit: x, y, x and y of its end; asked for once, so that the object's calls stay few. */
+    private final List<long[]> hits = new ArrayList<>();
     private final List<Integer> mine = new ArrayList<>();
     private List<Integer> best = new ArrayList<>();
     private long bestLength = Long.MAX_VALUE;
 
     PlainOrder(DrillArchive archive, int tool) {
-        this.archive = archive;
         for (int k = 0; k < 60; k++) {
             try {
                 if (archive.at(k, 0) == tool) {
                     mine.add(k);
                 }
+                hits.add(new long[] {archive.at(k, 1), archive.at(k, 2), archive.at(k, 3), archive.at(k, 4)});
             } catch (IndexOutOfBoundsException e) {
                 break;
             }
@@ -64,9 +65,9 @@ final class PlainOrder {
     }
 
     private long way(List<Integer> row, int next) {
-        long x = row.isEmpty() ? 0 : archive.at(row.get(row.size() - 1), 3);
-        long y = row.isEmpty() ? 0 : archive.at(row.get(row.size() - 1), 4);
-        return Math.max(Math.abs(archive.at(next, 1) - x), Math.abs(archive.at(next, 2) - y));
+        long[] to = hits.get(next);
+        long[] here = row.isEmpty() ? new long[4] : hits.get(row.get(row.size() - 1));
+        return Math.max(Math.abs(to[0] - here[2]), Math.abs(to[1] - here[3]));
     }
 
     private static String told(List<Integer> row, long length) {
