@@ -23,13 +23,24 @@ final class Whole {
                 + "open:\n" + new Whole(calls.andThen(a -> a.open())).all();
     }
 
+    /** As it is now, but for what calls that change it would answer. */
+    static String seen(Consumer<DrillArchive> calls) {
+        Whole whole = new Whole(calls);
+        whole.askNow();
+        return whole.answers.toString();
+    }
+
     private String all() {
+        askNow();
+        askWhatComesNext();
+        return answers.toString();
+    }
+
+    private void askNow() {
         askTools();
         askHits();
         askTexts();
         askFiles();
-        askWhatComesNext();
-        return answers.toString();
     }
 
     private String ask(String call, ToLongFunction<DrillArchive> question) {
